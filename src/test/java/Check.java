@@ -1,5 +1,10 @@
 /** Counts and prints the answers that are not as due; each test ends with end(). */
 final class Check {
+    /** One call on an object; a boolean answer counts 1 or 0. */
+    interface Call {
+        long on(ReversibleRope rope);
+    }
+
     private static int wrong = 0;
     private static int checked = 0;
 
@@ -23,6 +28,23 @@ final class Check {
         for (int place = 0; place < want.length; place++) {
             due(call + ": get(" + place + ")", rope.get(place), want[place]);
         }
+    }
+
+    /** One call on a new object that holds `before`: its answer, and every int that is there afterwards. */
+    static void call(String name, int[] before, Call call, long want, int... after) {
+        ReversibleRope rope = rope(before);
+        due(name, call.on(rope), want);
+        holds(name, rope, after);
+        due(name + ": behind the last place", rope.get(after.length), 0);
+    }
+
+    /** A call on a new object that holds `before` and must change nothing. */
+    static void unchanged(String name, int[] before, Call call, long want) {
+        call(name, before, call, want, before);
+    }
+
+    static int[] ints(int... values) {
+        return values;
     }
 
     static ReversibleRope rope(int... values) {
