@@ -1,7 +1,8 @@
 /**
  * Each sentence of the document that names a boundary case, in a test of its own that quotes it:
  * the last input inside, the first outside, the least and the greatest int, and that a refused call
- * changes nothing. Every case has a new object, so that no other case can hide what it did.
+ * changes nothing. Where one call is looked at, it has a new object, so that no other call can hide
+ * what it did; a few tests need a run of calls on one object.
  */
 public final class BoundariesTest {
     private static final int BAD = -1;
@@ -324,7 +325,8 @@ public final class BoundariesTest {
                 Check.unchanged(named("insert", n, place, 7), ints(n), rope -> rope.insert(place, 7), BAD);
             }
             int length = n;
-            Check.call(named("insert", n, n, 101 + n), ints(n), rope -> rope.insert(length, 101 + length), n + 1, ints(n + 1));
+            int value = 101 + n;
+            Check.call(named("insert", n, n, value), ints(n), rope -> rope.insert(length, value), n + 1, ints(n + 1));
             int[] behindFirst = Check.upwards(102, n);
             Check.call(named("insert", n, 0, 101), behindFirst, rope -> rope.insert(0, 101), n + 1, ints(n + 1));
         }
