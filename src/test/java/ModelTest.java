@@ -1,6 +1,6 @@
 import java.util.TreeSet;
 
-/** The class against ListModel: single calls with all small arguments, and long mixed runs. */
+/** The class against ListModel: single calls with arguments round the edges, and long mixed runs. */
 public final class ModelTest {
     private static final String[] NAMES = {
         "insert", "remove", "length", "get", "reverse", "add", "move", "twice",

@@ -304,7 +304,6 @@ public final class PromisesTest {
         Check.due("11: the last", rope.greatest(2, 4), -5);
         Check.due("11: the first", rope.greatest(1, 4), -3);
         Check.due("11: one int", rope.greatest(2, 3), -9);
-        Check.due("11: not what is outside", rope.greatest(2, 3), -9);
         for (int p = 0; p <= 4; p++) {
             Check.due("11: empty at " + p, rope.greatest(p, p), 0);
         }
